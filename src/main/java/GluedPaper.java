@@ -508,11 +508,12 @@ public final class GluedPaper {
             text.cut();
             told = 0;
             fault = 0;
-            Arrays.fill(numbers, 0);
             Arrays.fill(rows, 0);
             for (int pass = 0; pass < 2; pass++) {
                 working = pass == 1;
                 at = 0;
+                // The pass before has left numbers behind; a NAME that its each never sets is 0.
+                Arrays.fill(numbers, 0);
                 for (int i = 0; i < text.tokens && fault == 0 && kind() != Tape.END; i++) {
                     if (kind() == Tape.LET) {
                         readLet();
