@@ -1,5 +1,3 @@
-import java.util.NoSuchElementException;
-
 /** Each promise of the document by itself: ordinary inputs, the edges that it names, wrong inputs. */
 public final class PromiseTest {
     private static final int NONE = GluedPaper.NONE;
@@ -170,6 +168,9 @@ public final class PromiseTest {
         is("beyond", paper.feed(Calls.packed("!!!!!!!!", 0), -1, 0), 1000);
         is("1,000 blanks", paper.figure(), 8 + 16 * 1000);
         is("behind it", put(paper, "cell 0 0;"), 9);
+        is("two ends", read(new GluedPaper(), "cell 0 0" + times(495, "*0") + ";;"), 1 + 16 * 999);
+        is("1,000 tokens and the end", read(new GluedPaper(), times(1000, ";")), 1);
+        is("a thousand signs of one text", read(new GluedPaper(), "cell 0 0" + times(495, "+0") + "*0"), 1 + 16 * 1000);
         is("a fault takes it too", read(paper, ";"), 1 + 16 * 9);
         is("empty", paper.count(6), 0);
     }
@@ -256,6 +257,13 @@ public final class PromiseTest {
         fault("cell (((((^let", 1);
         fault("cell (((((^)))))) 0;", 1);
         fault("cell (((((^12345))))) 0;", 1);
+        for (String ahead : new String[] {"cell ", "cell 0 ", "rect ", "rect 0 ", "rect 0 0 ", "rect 0 0 1 ", "less 0 ",
+            "let a ", "each k ", "each k 0 ", "each k 0 1 cell 0 "}) {
+            fault(ahead + "(((((^1)))))", 5);
+            fault(ahead + "((((1))))+(((((^1)))))", 5);
+        }
+        good("rect ((((1)))) ((((1)))) ((((1)))) ((((1))));let a ((((1))));each k ((((1)))) ((((1)))) less k ((((1))));"
+            + "cell 0 ((((0))))*((((1))));", 1);
         fault("cell (^) 0;", 1);
         fault("cell (1^;", 1);
         fault("cell (1 ^1) 0;", 1);
@@ -905,6 +913,16 @@ public final class PromiseTest {
             is("four ways", round(paper, cell, 1), 4);
             is("dx", round(paper, cell, 2), -4);
             is("dy", round(paper, cell, 3), 0);
+        }
+        paper = of("cell 1 0;cell 1 1;rect 0 2 6 1;");
+        paper.choose(1);
+        is("as far as can be", round(paper, 3, 0), 144);
+        is("how many so far", round(paper, 3, 1), 4);
+        is("dx so far", round(paper, 3, 2) * 100 + round(paper, 3, 3), -1200);
+        paper = of("rect 0 0 1 8;");
+        paper.choose(1);
+        for (int what = 0; what < 4; what++) {
+            is("none", round(paper, 0, what), Calls.THROWN);
         }
         paper = of("rect 0 0 8 1;");
         PaperModel model = model("rect 0 0 8 1;");
