@@ -19,7 +19,7 @@ public final class ModelTest {
 
     public static void main(String[] args) {
         long first = args.length > 0 ? Long.parseLong(args[0]) : 1;
-        long runs = args.length > 1 ? Long.parseLong(args[1]) : 240;
+        long runs = args.length > 1 ? Long.parseLong(args[1]) : 600;
         int failed = 0;
         int[] seen = new int[12];
         for (long start = first; start < first + runs; start++) {

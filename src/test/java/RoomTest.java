@@ -74,7 +74,11 @@ public final class RoomTest {
         GluedPaper paper = new GluedPaper();
         String text = "rect 1 0 1 4;cell 0 2;cell 2 2;cell 3 2;let a 4;each k a 4 cell 3-2 k;";
         work(new GluedPaper(), text);
-        long before = threads.getThreadAllocatedBytes(self);
+        long start = threads.getThreadAllocatedBytes(self);
+        long before = threads.getThreadAllocatedBytes(new long[] {self})[0];
+        if (before <= start) {
+            System.out.println("this machine does not tell what is taken: nothing is measured");
+        }
         work(paper, text);
         return threads.getThreadAllocatedBytes(self) - before;
     }
