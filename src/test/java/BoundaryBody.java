@@ -7,6 +7,16 @@ final class BoundaryBody extends Sentences {
     /** A body (gluing 1) on which CELL 3's ROUND is 144. */
     private static final String AS_FAR_ROUND = "cell 1 0;cell 1 1;rect 0 2 6 1;";
 
+    private static final int[] TEN_UPWARDS = {0, 1, 2, 3, 4, 5, 2, 3, 0, 5, 10, 10, 12, 13, 12, 10, 12, 13, 12, 10, 12, 13, 12,
+        10, 10, 13, 12, 10, 10, 12, 12, 10, 10, 12, 13, 0, 5, 2, 3, 4, 5, 2, 3, 0, 1};
+    private static final int[] TEN_EASTWARDS = {0, 0, 2, 3, 2, 5, 6, 0, 2, 3, 2, 0, 12, 13, 2, 3, 2, 0, 0, 5, 6, 3, 2,
+        0, 0, 2, 26, 13, 26, 5, 12, 5, 26, 2, 0, 0, 2, 3, 13, 6, 13, 6, 42, 26, 42};
+    /** TREES and NETS of each body of eight squares in a row. */
+    private static final int[] EIGHT_TREES = {2352, 2048, 816, 2048, 2440, 2544, 2048, 816, 2048, 2352, 2440, 2898, 816, 2048, 2352,
+        2048, 1280, 2898, 1280, 2440, 2440, 1280, 2048, 2352, 2048, 816, 2898, 2898, 2544, 128, 1280, 128};
+    private static final int[] EIGHT_NETS = {64, 62, 31, 62, 239, 300, 62, 31, 62, 64, 239, 322, 31, 62, 64,
+        62, 151, 322, 151, 239, 239, 151, 62, 64, 62, 31, 322, 322, 300, 36, 151, 36};
+
     BoundaryBody() {
         bodies();
         turns();
@@ -123,6 +133,10 @@ final class BoundaryBody extends Sentences {
             paper.choose(1);
             is("TREES of 1", paper.nets(0), treesByBeyond(paper));
             is("unlike", paper.nets(0) == trees ? 1 : 0, 0);
+            for (String text : new String[] {TEE, LONG_TEE, CROSS, OPEN_RING, "rect 0 0 2 5;",
+                    "rect 0 0 4 2;less 0 1;rect 4 0 1 3;"}) {
+                sameIfTheyFit(text);
+            }
         });
         say("same mirrored", "or all mirrored", () -> {
             // South EDGE 0 of both T's goes to south EDGE 2, and so on the other way round.
@@ -179,7 +193,68 @@ final class BoundaryBody extends Sentences {
                 unlike += paper.bodyOf(i) == i ? 1 : 0;
             }
             is("as many as are their own", paper.bodies(), unlike);
+            // All 45, upwards and eastwards: only the last of ten CELLS tell some of these from others.
+            for (int way = 0; way < 2; way++) {
+                paper = of(way == 0 ? "rect 0 0 1 10;" : "rect 0 0 10 1;");
+                is("nine unlike", paper.bodies(), 9);
+                for (int i = 0; i < 45; i++) {
+                    is("of ten in a row, " + i, paper.bodyOf(i), (way == 0 ? TEN_UPWARDS : TEN_EASTWARDS)[i]);
+                }
+            }
         });
+    }
+
+    /** same() of all pairs of a figure's GLUINGS against a search for CELLS and SIDES that fit. */
+    private void sameIfTheyFit(String text) {
+        GluedPaper paper = of(text);
+        int all = paper.gluings();
+        int[][] behind = new int[all][];
+        for (int i = 0; i < all; i++) {
+            behind[i] = behindSides(body(text, i));
+        }
+        for (int i = 0; i < all; i++) {
+            paper = of(text);
+            for (int k = 0; k < all; k++) {
+                boolean fit = false;
+                for (int place = 0; place < behind[k].length && !fit; place++) {
+                    fit = fits(behind[i], behind[k], place, 1) || fits(behind[i], behind[k], place, 3);
+                }
+                is(text + " " + i + " and " + k, paper.same(i, k), fit ? 1 : 0);
+            }
+        }
+    }
+
+    /** BEYOND each CELL * 4 + SIDE. */
+    private static int[] behindSides(GluedPaper paper) {
+        int[] behind = new int[paper.count(0) * 4];
+        for (int i = 0; i < behind.length; i++) {
+            behind[i] = paper.beyond(i / 4, i % 4, 0) * 4 + paper.beyond(i / 4, i % 4, 1);
+        }
+        return behind;
+    }
+
+    /** Whether all fits if SIDE 0 of CELL 0 is given to such a place, the SIDES going on by 1, mirrored by 3. */
+    private static boolean fits(int[] body, int[] other, int place, int step) {
+        int[] given = new int[body.length];
+        java.util.Arrays.fill(given, -1);
+        java.util.ArrayDeque<Integer> next = new java.util.ArrayDeque<>();
+        given[0] = place;
+        next.add(0);
+        while (!next.isEmpty()) {
+            int from = next.remove();
+            int to = given[from];
+            int[] sides = {from / 4 * 4 + (from + 1) % 4, body[from]};
+            int[] dues = {to / 4 * 4 + (to + step) % 4, other[to]};
+            for (int i = 0; i < 2; i++) {
+                if (given[sides[i]] == -1) {
+                    given[sides[i]] = dues[i];
+                    next.add(sides[i]);
+                } else if (given[sides[i]] != dues[i]) {
+                    return false;
+                }
+            }
+        }
+        return true;
     }
 
     /** The GLUING of a T that is the mirror image of one, EDGE i being EDGE 2 - i. */
@@ -247,6 +322,12 @@ final class BoundaryBody extends Sentences {
             is("the turn behind it", paper.way(0, -3, 1, 1), 1);
             is("one that lacks, TURNED", paper.way(0, -3, -1, 0), NONE);
             is("past it", paper.way(0, -2, 1, 0) != NONE && paper.way(0, -1, 2, 0) != NONE ? 1 : 0, 1);
+            for (String text : new String[] {"rect 0 0 2 2;", TEE, "rect 0 0 3 2;"}) {
+                int all = of(text).gluings();
+                for (int i = 0; i < all; i++) {
+                    cornerStepsFit(text, i);
+                }
+            }
             GluedPaper whole = cube();
             is("at its third corner", whole.way(3, 9, 3, 0), NONE);
             is("at no corner", whole.way(3, 9, 2, 0) != NONE ? 1 : 0, 1);
@@ -275,6 +356,22 @@ final class BoundaryBody extends Sentences {
             is("no BODY", paper.way(0, 1, 0, 0), NONE);
             is("no BODY, not even nowhere", paper.way(0, 0, 0, 1), NONE);
         });
+    }
+
+    /** From each CELL one step aslant in each of the four directions: over the corner behind SIDE s, or none. */
+    private void cornerStepsFit(String text, int gluing) {
+        GluedPaper paper = body(text, gluing);
+        int[] dx = {1, 1, -1, -1};
+        int[] dy = {-1, 1, 1, -1};
+        for (int i = 0; i < paper.count(0) * 4; i++) {
+            int cell = i / 4;
+            int side = i % 4;
+            int across = paper.beyond(cell, side, 0);
+            // Whole: on from the CELL that lies behind this one, out of the SIDE that leads away round the corner.
+            int due = paper.beyond(cell, side, 2) != 4 ? NONE
+                : paper.beyond(across, (paper.beyond(cell, side, 1) + 3) % 4, 0);
+            is(text + " " + gluing + ": " + cell + ", " + side, paper.way(cell, dx[side], dy[side], 0), due);
+        }
     }
 
     /** {square, how many, dx, dy} of the WAYS that way() tells, the least square first that is at least so great; null: none. */
@@ -504,6 +601,11 @@ final class BoundaryBody extends Sentences {
             is("three", body("rect 0 0 3 1;", 7).nets(2), 2);
             is("all five of four squares", body("rect 0 0 4 1;", 2).nets(2), 5);
             is("on another body", body("rect 0 0 4 1;", 9).nets(2), 3);
+            for (int i = 0; i < 32; i++) {
+                GluedPaper paper = body("rect 0 0 8 1;", i);
+                is("eight in a row, TREES, " + i, paper.nets(0), EIGHT_TREES[i]);
+                is("eight in a row, NETS, " + i, paper.nets(2), EIGHT_NETS[i]);
+            }
         });
         say("nets others", "What 0: TREES, 1: GOOD, 2: NETS; NONE: another what, no BODY, more than 8 CELLS.", () -> {
             GluedPaper paper = body("rect 0 0 2 1;", 1);

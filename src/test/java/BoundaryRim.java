@@ -97,6 +97,12 @@ final class BoundaryRim extends Sentences {
             // 9 + 1 is 0, not 9: 9 with 3 and 0 with 2 are 3 QUARTERS each, all four would be 6.
             is("not too many where the last one ends", of("rect 0 0 4 1;").glue(9, 2), 0);
             is("nor where it is told behind", of("rect 0 0 4 1;").glue(2, 9), 0);
+            // 9 + 1 is 0, one with 2 by then, and there is a row of 22 EDGES ahead, in which 10 is no 0: 3 and 2 at CORNER 6.
+            paper = of("rect 0 0 10 1;");
+            read(paper, "rect 0 0 4 1;");
+            is("0 with 2", paper.glue(0, 1), 0);
+            is("too many where the last one ends", paper.glue(9, 6), 5);
+            is("and where it is told behind", paper.glue(6, 9), 5);
         });
         say("edge glued", "3: what it is GLUED to (NONE: nothing)", () -> {
             GluedPaper paper = of("rect 0 0 2 1;");

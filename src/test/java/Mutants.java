@@ -208,6 +208,9 @@ final class Mutants {
             "unite(a, b) <= WHOLE_TURN && unite(behindA, behindB) <= WHOLE_TURN");
         breaks("glued corners", "unite(a, behindB) <= WHOLE_TURN && unite(behindA, b) <= WHOLE_TURN", "unite(a, behindB) <= WHOLE_TURN");
         breaks("corners modulo", "a + 1 < edges ? a + 1 : 0;", "a + 1 < edges ? a + 1 : a;");
+        breaks("corners modulo", "a + 1 < edges ? a + 1 : 0;", "a + 1 < edges ? a + 1 : 1;");
+        breaks("corners modulo", "a + 1 < edges ? a + 1 : 0;", "a + 1 <= edges ? a + 1 : 0;");
+        breaks("corners modulo", "b + 1 < edges ? b + 1 : 0;", "b + 1 <= edges ? b + 1 : 0;");
         breaks("corners modulo", "b + 1 < edges ? b + 1 : 0;", "b + 1 < edges ? b + 1 : b;");
         breaks("edge glued", "        later[b] = a;\n", "");
     }
@@ -269,12 +272,17 @@ final class Mutants {
         breaks("same seen from outside", "return equal(MOST, MOST + 1);", "return gluing == other;");
         breaks("same seen from outside", "place < body.cells * 4; place++) {\n                describeFrom", "place < 1; place++) {\n                describeFrom");
         breaks("same seen from outside", "int entry = number[to] * 4 + ", "int entry = 0 * number[to] + ");
+        breaks("same seen from outside", "describeFrom(place / 4, place % 4, 1);", "describeFrom(place / 4, place % 3, 1);");
+        breaks("same seen from outside", "describeFrom(place / 4, place % 4, 1);", "describeFrom(place / 5, place % 4, 1);");
+        breaks("same seen from outside", "i < body.cells * 4 && i / 4 < found", "i < body.cells * 3 && i / 4 < found");
+        breaks("same seen from outside", "LONGS = 4;", "LONGS = 3;");
         breaks("same mirrored", "                describeFrom(place / 4, place % 4, 3);\n", "");
         breaks("same mirrored", "                describeFrom(place / 4, place % 4, 3);\n", "                describeFrom(place / 4, place % 4, 2);\n");
         breaks("same arguments", "if (!all.has(gluing) || !all.has(other)) {", "if (!all.has(gluing)) {");
         breaks("same arguments", "if (!all.has(gluing) || !all.has(other)) {", "if (!all.has(other)) {");
         breaks("body of", "leastOf[i] = firstEqual(i);", "leastOf[i] = i;");
         breaks("body of", "if (!all.has(gluing) || !kindred.work()) {", "if (gluing < 0 || !kindred.work()) {");
+        breaks("bodies", "int from = order[i / 4];", "int from = order[i / 5];");
         breaks("bodies", "kinds += leastOf[i] == i ? 1 : 0;", "kinds++;");
         breaks("bodies", "MOST = 300;", "MOST = 44;");
     }
@@ -290,6 +298,7 @@ final class Mutants {
         breaks("way corner", "if (sooner == 0) {", "if (sooner == 0 && column > 0) {");
         breaks("way corner", "if (sooner == 0) {", "if (sooner == 0 && column < 1) {");
         breaks("way corner", "sideX == EAST ? sideY / 2 : 3 - sideY / 2;", "sideX == EAST ? sideY / 2 : 2 + sideY / 2;");
+        breaks("way corner", "sideX == EAST ? sideY / 2 : 3 - sideY / 2;", "sideX == EAST ? sideY / 2 : 3 + sideY / 2;");
         breaks("way corner", "(between + turned) % 4] != WHOLE_TURN", "between] != WHOLE_TURN");
         breaks("way turned", "turned = (body.sideBehind[place] + 6 - side) % 4;", "turned = (side + 6 - body.sideBehind[place]) % 4;");
         breaks("way turned", "turned = (body.sideBehind[place] + 6 - side) % 4;", "turned = body.sideBehind[place] + 6 - side;");
@@ -334,6 +343,8 @@ final class Mutants {
         breaks("nets unlike", "                    unlike++;\n", "");
         breaks("nets unlike", "        private void keepNet(long squares) {\n            int slot = (int) ((squares * 0x9E3779B97F4A7C15L) >>> 55);",
             "        private void keepNet(long squares) {\n            int slot = (int) ((squares * 0x9E3779B97F4A7C15L) >>> 63);\n unlike++;");
+        breaks("nets unlike", "                joined[b] = false;\n", "");
+        breaks("nets unlike", "                    slot = (slot + 1) % ROOM;\n", "");
         breaks("nets others", "what > 2 || body.cells >", "what > 3 || body.cells >");
         breaks("nets others", "        unfolder.known = false;\n", "");
     }
