@@ -7,11 +7,12 @@ final class BoundaryBody extends Sentences {
     /** A body (gluing 1) on which CELL 3's ROUND is 144. */
     private static final String AS_FAR_ROUND = "cell 1 0;cell 1 1;rect 0 2 6 1;";
 
+    /** BODY of each GLUING of ten squares in a row, as a model apart from this project answered. */
     private static final int[] TEN_UPWARDS = {0, 1, 2, 3, 4, 5, 2, 3, 0, 5, 10, 10, 12, 13, 12, 10, 12, 13, 12, 10, 12, 13, 12,
         10, 10, 13, 12, 10, 10, 12, 12, 10, 10, 12, 13, 0, 5, 2, 3, 4, 5, 2, 3, 0, 1};
     private static final int[] TEN_EASTWARDS = {0, 0, 2, 3, 2, 5, 6, 0, 2, 3, 2, 0, 12, 13, 2, 3, 2, 0, 0, 5, 6, 3, 2,
         0, 0, 2, 26, 13, 26, 5, 12, 5, 26, 2, 0, 0, 2, 3, 13, 6, 13, 6, 42, 26, 42};
-    /** TREES and NETS of each body of eight squares in a row. */
+    /** TREES and NETS of each body of eight squares in a row, from there, too. */
     private static final int[] EIGHT_TREES = {2352, 2048, 816, 2048, 2440, 2544, 2048, 816, 2048, 2352, 2440, 2898, 816, 2048, 2352,
         2048, 1280, 2898, 1280, 2440, 2440, 1280, 2048, 2352, 2048, 816, 2898, 2898, 2544, 128, 1280, 128};
     private static final int[] EIGHT_NETS = {64, 62, 31, 62, 239, 300, 62, 31, 62, 64, 239, 322, 31, 62, 64,
